@@ -1167,7 +1167,7 @@ public final class MobileMaker {
             many = 0;
             numbers = 0;
             add(top, 0, 0);
-            for (int i = 0; i < many; i++) {
+            for (int i = 0; i < many && i < members.length; i++) {
                 if (members[i] instanceof Rod rod) {
                     add(rod.left, rod.height, rod.path);
                     add(rod.right, rod.height, rod.path);

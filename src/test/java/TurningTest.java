@@ -9,6 +9,7 @@ public final class TurningTest {
         clear();
         clearInOrder();
         clearWithinThreads();
+        clearBeyondOneThread();
         clearSpent();
         Due.end();
     }
@@ -217,6 +218,32 @@ public final class TurningTest {
         Due.none(x, "no part has room but 3 and 4", x.clash(3, 0), 5);
         Due.fine(x, "5 and 6 are as low now", x.part(6, 4), 1000);
         Due.fine(x, "and no other", x.clashes(0), 0);
+    }
+
+    /** One weight that meets others as low and one lower: it would have to be two lower, its thread can be one longer. */
+    private static void clearBeyondOneThread() {
+        for (int thread = 998; thread <= 1000; thread++) {
+            Both b = new Both("thread of " + thread);
+            int w = b.weight(1);
+            int top = b.rod(2, 0, false);
+            int left = b.rod(1000, 0, false);
+            int right = b.rod(1000, 0, false);
+            b.hang(w, left, 0, thread);
+            b.hang(left, top, 0, 1001 - thread);
+            b.hang(right, top, 1, 2);
+            int[][] threads = {{998, 999}, {998, 997}};
+            for (int end = 0; end < 2; end++) {
+                int rod = b.rod(2, 0, false);
+                b.hang(rod, right, end, 1);
+                b.hang(b.weight(1), rod, 0, threads[end][0]);
+                b.hang(b.weight(1), rod, 1, threads[end][1]);
+            }
+            Due.is("two meet with the one", b.clashes(top), 2);
+            Due.is("two in all", b.clear(top), 2);
+            Due.is("its thread", b.part(w, 4), 1000);
+            b.whole();
+            Due.is("none is left", b.clashes(top), 0);
+        }
     }
 
     /** Five rods of which no two weights may be as low, with one weight each and so many more, one lower. */
