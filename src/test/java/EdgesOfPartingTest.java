@@ -6,6 +6,7 @@ public final class EdgesOfPartingTest {
         promise29Shape();
         promise29Places();
         promise29Ways();
+        promise29Again();
         promise30Order();
         promise30First();
         promise31Order();
@@ -138,6 +139,15 @@ public final class EdgesOfPartingTest {
         z.row(0, 2, 1, 2, 1, 2, 1, 2, 1, 2, 2).gives(28, "ways(0, 0)");
         z.eachGives("fill(0, 0, #)", 0, 1, 2, 1, 3, 4, 5, 4, 6, 7);
         z.row(0, 2, 2, 2, 2, 2, 2, 2, 2).gives(1, "ways(0, 0)").row(0, 2, 2, 2, 2, 2, 2, 2).gives(0, "ways(0, 0)");
+    }
+
+    /** Each call looks anew: 9 and 3 of 12, then 8, 1 and 3 with the same numbers, and back. */
+    private static void promise29Again() {
+        Run x = new Run(29).row(0, 1, 2, 3, 6).with("rod(4, 0, false)", "rod(3, 0, false)", "rod(4, 0, false)",
+            "tied(0, 1, 4)", "tied(1, 1, 3)", "tied(2, 3, 4)", hang(2, 1, 1, 1));
+        x.gives(2, "ways(0, 0)").gives(1, "ways(1, 0)").gives(2, "ways(0, 0)").gives(1, "ways(1, 0)");
+        x.eachGives("fill(1, 0, #)", 1, 0, 2, 0).eachGives("fill(0, 0, #)", 0, 0, 1, 0);
+        x.row(0, 2, 1).gives(0, "ways(0, 0)").row(0, 3, 1).gives(1, "ways(0, 0)").gives(0, "ways(1, 0)");
     }
 
     /** RODS of 2 with two RODS each, down to 8 FREE ends. */
